@@ -1529,15 +1529,16 @@ public final class SlotMat {
     private static final class RuleReader {
         private static final int MOST_WITHIN = 6;
         private static final int MOST_NOTS = 6;
+        // In each expression a parenthesis, six nots and one of each other rank may wait.
+        private static final int MOST_WAITING = 12 * (MOST_WITHIN + 1);
         // How strongly each operator of Rule binds, by its number.
         private static final int[] RANK = {0, 1, 2, 3, 4, 4, 5, 5, 6, 6};
 
-        private final int[] waiting = new int[TAPE_BYTES];
+        private final int[] waiting = new int[MOST_WAITING];
         private int top = 0;
         private int within = 0;
         private int nots = 0;
         private boolean wantsPart = true;
-        private boolean begins = true;
         private boolean mayNot = true;
 
         /** From the line's first word on; stops at the ';' behind the EXPR, or at a fault. */
@@ -1568,7 +1569,6 @@ public final class SlotMat {
 
         private void beginExpression() {
             wantsPart = true;
-            begins = true;
             mayNot = true;
             nots = 0;
         }
@@ -1578,7 +1578,7 @@ public final class SlotMat {
             boolean isOpen = tokens.kind == '(';
             if (!isNumber && !isOpen && tokens.kind != Tokens.WORD) {
                 tokens.fail(Tokens.CANT_STAND);
-            } else if (begins && within >= MOST_WITHIN || isNumber && tokens.number > MOST_NUMBER) {
+            } else if (within >= MOST_WITHIN || isNumber && tokens.number > MOST_NUMBER) {
                 tokens.fail(Tokens.TOO_MUCH);
             } else if (isOpen) {
                 push(Rule.OPEN);
@@ -1600,7 +1600,6 @@ public final class SlotMat {
             }
             push(Rule.NOT);
             nots++;
-            begins = false;
         }
 
         private void putValue(Tokens tokens, Rule rule, int value) {
@@ -1668,7 +1667,6 @@ public final class SlotMat {
         private void letWait(int operator) {
             push(operator);
             wantsPart = true;
-            begins = false;
             mayNot = operator == Rule.OR || operator == Rule.AND;
             nots = 0;
         }
