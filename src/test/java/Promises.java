@@ -864,6 +864,11 @@ public final class Promises {
         due(0, () -> rows.order(-1));
         due(0, () -> rows.order(0));
         due(NO_SUCH, () -> rows.order(1));
+        // Nor of a day that differs from the one before by its WET alone.
+        tell(rows, "box 0 0;person 0 1 at 1;person 0 0;wet 0 9;");
+        due(0, () -> rows.order(-1));
+        rows.days(1);
+        due(9, () -> rows.order(-1));
         // Nor of another city that begins alike.
         tell(rows, "box 0 0;box 10 0;person 0 9 at 1;person 10 2 at 0;wet 0;sounds much;");
         due(20, () -> rows.order(-1));
