@@ -120,6 +120,9 @@ public final class SentencesOfActs {
         Sentence.due(1, () -> far.box(0, 4));
         Sentence.due(0, () -> far.box(1, 4));
         Sentence.due(Sentence.NONE, () -> far.box(2, 4));
+        // On either side of it.
+        Sentence.due(1, () -> Sentence.told("box 10 0;person 15 0;person 4 0;").box(0, 4));
+        Sentence.due(1, () -> Sentence.told("box 10 0;person 5 0;person 16 0;").box(0, 4));
         // Who stands at the box itself is farthest, if nobody else is.
         Sentence.due(0, () -> Sentence.told("box 9 0;person 9 0;person 9 0;").box(0, 4));
         Sentence.due(Sentence.NONE, () -> Sentence.told("box 9 0;").box(0, 4));
@@ -365,6 +368,11 @@ public final class SentencesOfActs {
         SlotMat silent = Sentence.told("box 0 9;box 9 9;person 0 0 at 1;person 9 5 at 0;round 0;sounds 7;");
         silent.days(3);
         Sentence.due(0, () -> silent.count(7));
+        // Of that box alone, be there as many people as can be.
+        SlotMat two = Sentence.told("box 0 9;box 30 9;person 30 1;" + Sentence.many(7, "person 0 1;") + "round 0;");
+        two.days(2);
+        Sentence.due(2, () -> two.held(1, 0));
+        Sentence.due(0, () -> two.box(0, 2));
         // Nobody hears what is thought at nobody, yet it is fetched.
         SlotMat nobody = Sentence.told("box 0 9;person 0 5;person 0 0;sounds 7;");
         nobody.days(1);
@@ -511,6 +519,10 @@ public final class SentencesOfActs {
         Sentence.due(60, () -> x.person(2, 3));
         Sentence.due(20, () -> x.held(1, 1));
         Sentence.due(20, () -> x.person(1, 3));
+        Sentence.due(9 + 9 + 99 + 9 + 60, () -> x.write(2));
+        Sentence.due(0, () -> x.held(0, 2));
+        Sentence.due(0, () -> x.person(2, 3));
+        Sentence.due(30, () -> x.box(0, 1));
         SlotMat loud = Sentence.told("box 0 9;person 0 9 at 1;person 0 0 at 0;sounds 90*(day<111);");
         passDays(loud, 111);
         Sentence.due(9990, () -> loud.person(1, 4));
@@ -807,7 +819,7 @@ public final class SentencesOfActs {
         }
         x.forget();
         for (int i = 0; i < 8; i++) {
-            x.note(0, i, 7);
+            x.note(0, 20 - i, 7);
         }
         x.restore();
         Sentence.due(45, () -> x.count(2));

@@ -332,6 +332,9 @@ public final class SentencesOfQuestions {
         SlotMat begin = Sentence.told("box 30 0;person 0 0;person 30 0;");
         Sentence.due(0, () -> begin.oneMore(0));
         Sentence.due(0, () -> begin.oneMore(1));
+        SlotMat second = Sentence.told("box 30 0;person 1 0;");
+        Sentence.due(1, () -> second.oneMore(0));
+        Sentence.due(0, () -> second.oneMore(1));
         // From 8 to 12 all are alike, and of no other place are the ways so few.
         SlotMat like = Sentence.told("person 8 0;person 12 0;");
         Sentence.due(8, () -> like.oneMore(0));
@@ -377,6 +380,30 @@ public final class SentencesOfQuestions {
         }
     }
 
+    /** From now on: what was answered of another day, another wet or another city is not said again. */
+    private static void orderIsAskedAgain() {
+        SlotMat x = Sentence.told(boxesWith(1, 2));
+        dueOrder(x, 1 + 4, 0, 1);
+        x.days(2);
+        // Box 0 was emptied first and holds 1, box 1 nothing: 0 first lets 2 and 4 be heard, 1 first 2 and 3.
+        dueOrder(x, 2 + 4, 0, 1);
+        x.undo();
+        dueOrder(x, 1 + 4, 0, 1);
+        x.turn(1, Sentence.NONE);
+        dueOrder(x, 2, 1, 0);
+        Sentence.tell(x, boxesWith(2, 1));
+        dueOrder(x, 1 + 4, 1, 0);
+        Sentence.tell(x, boxesWith(9, 1));
+        dueOrder(x, 1 + 18, 1, 0);
+        Sentence.tell(x, boxesWith(1, 9));
+        dueOrder(x, 1 + 18, 0, 1);
+        // Only WET, and with it the day, is another one.
+        SlotMat wet = Sentence.told("box 0 0;person 0 1 at 1;person 0 0;wet 7 9;sounds wet*(0<day);");
+        dueOrder(wet, 0, 0);
+        wet.days(1);
+        dueOrder(wet, 9, 0);
+    }
+
     private static void order() {
         Sentence.of(24, "AN ORDER of all BOXES, by which, were it the ROUND from now on (its first one fetched on the"
             + " next DAY), all would have HEARD most behind as many DAYS as there are BOXES, all together: how much"
@@ -403,6 +430,7 @@ public final class SentencesOfQuestions {
         SlotMat before = Sentence.told(boxesWith(3, 1, 2));
         before.days(1);
         Sentence.changesNothing(before, () -> before.order(Sentence.NONE));
+        orderIsAskedAgain();
 
         Sentence.of(24, "(A STRIKE goes on.)");
         SlotMat strike = Sentence.toldOnStrike(boxesWith(9, 5, 1));
@@ -547,6 +575,15 @@ public final class SentencesOfQuestions {
         SlotMat many = Sentence.told("box 0 9;person 0 1;person 0 2;person 0 4;person 0 0;sounds much;");
         Sentence.due(3, () -> many.ask(0));
         Sentence.due(4, () -> many.ask(1));
+        // Of 56 thoughts seven let the first, or the last one, hear something, each another sum.
+        SlotMat eight = Sentence.told("box 0 9;person 0 0;person 0 1;person 0 2;person 0 3;person 0 4;person 0 5;"
+            + "person 0 6;person 0 7;sounds much;");
+        Sentence.due(0, () -> eight.ask(0));
+        Sentence.due(8, () -> eight.ask(1));
+        SlotMat last = Sentence.told("box 0 9;person 0 7;person 0 1;person 0 2;person 0 3;person 0 4;person 0 5;"
+            + "person 0 6;person 0 0;sounds much;");
+        Sentence.due(7, () -> last.ask(0));
+        Sentence.due(8, () -> last.ask(1));
 
         Sentence.of(28, "ASK NEXT (what 0; NONE), how many (1; 0: none). NoSuchElementException: another what.");
         x.note(2, 5, 44);
@@ -584,6 +621,17 @@ public final class SentencesOfQuestions {
         Sentence.due(100000 - 7 * 7 * 7 * 7 * 7, () -> x.wetNights(1, 1, 5, 3));
         Sentence.due(3 * 3 * 3 * 3 * 3, () -> x.wetNights(1, 45, 5, 3));
         Sentence.due(243 + 5 * 81 * 7, () -> x.wetNights(1, 36, 5, 3));
+        // The least that is likely at all: one of 100000.
+        Sentence.due(1, () -> x.wetNights(1, 45, 5, 1));
+        Sentence.due(99999, () -> x.wetNights(1, 1, 5, 9));
+        // On a dry night WET is 0: of two thoughts 1 is heard then, and 10 on a wet one.
+        SlotMat two = Sentence.told("box 0 0;person 0 2 at 1;person 0 0;wet 5;");
+        Sentence.due(10, () -> two.wetNights(1, 1, 1, 3));
+        Sentence.due(3, () -> two.wetNights(1, 2, 1, 3));
+        Sentence.due(100, () -> two.wetNights(1, 2, 2, 3));
+        Sentence.due(100 - 49, () -> two.wetNights(1, 3, 2, 3));
+        Sentence.due(0, () -> two.wetNights(1, 6, 5, 0));
+        Sentence.due(100000, () -> two.wetNights(1, 5, 5, 0));
         // Who has heard it already has heard so much.
         SlotMat loud = Sentence.told("box 0 9;person 0 9 at 1;person 0 0;sounds 99;");
         passDays(loud, 101);
@@ -746,7 +794,8 @@ public final class SentencesOfQuestions {
             + " PEOPLE (if it is oneself: to nobody), 2 a STRIKE begins, or ends; then the DAY goes by: how much all"
             + " have HEARD in these DAYS, all together; REGRET of all at the end; how much all BOXES HOLD.");
         String street = "box 5 20;box 20 3;person 4 4 at 1;person 10 2 at 0;person 25 6 at 0;";
-        String eight = "box 5 20;box 20 3;" + Sentence.many(4, "person 4 3 at 7;") + Sentence.many(4, "person 21 2 at 0;");
+        String eight = "box 5 20;box 20 3;" + Sentence.many(4, "person 4 3 at 7;")
+            + Sentence.many(4, "person 21 2 at 0;");
         int[] seeds = {0, 1, -1, 5, 12345, -987654321, Integer.MAX_VALUE, Integer.MIN_VALUE};
         for (int seed : seeds) {
             for (int n : new int[] {0, 1, 2, 7, 8}) {
@@ -769,6 +818,12 @@ public final class SentencesOfQuestions {
         Sentence.due(regret, () -> x.years(7, 0, 1));
         Sentence.due(held, () -> x.years(7, 0, 2));
         Sentence.changesNothing(x, () -> x.years(7, 40, 0));
+        // More is regretted than is held, where a box held 99 already.
+        SlotMat most = Sentence.toldOnStrike("box 0 0;person 0 9;");
+        most.days(20);
+        Sentence.due(0, () -> most.years(7, 0, 0));
+        Sentence.due(180, () -> most.years(7, 0, 1));
+        Sentence.due(99, () -> most.years(7, 0, 2));
 
         Sentence.of(31, "A seed becomes itself times 1103515245 and 12345 (an int that wraps); a DRAW of n is its bits"
             + " 16 to 30 MOD n then.");
@@ -930,10 +985,15 @@ public final class SentencesOfQuestions {
         Sentence.due(30, () -> Sentence.told("box 0 0;person 30 0;").middle());
         Sentence.due(0, () -> Sentence.told("box 30 0;person 0 0;").middle());
         Sentence.due(10, () -> Sentence.told(Sentence.STREET).middle());
+        // Where boxes stand does not matter.
+        Sentence.due(9, () -> Sentence.told("box 9 0;person 9 0;person 9 0;person 20 0;").middle());
+        Sentence.due(1, () -> Sentence.told("person 1 0;").middle());
         // From 8 to 12 all are alike.
         Sentence.due(8, () -> Sentence.told("person 12 0;person 8 0;").middle());
-        Sentence.due(0, () -> Sentence.told(Sentence.many(4, "person 30 0;") + Sentence.many(4, "person 0 0;")).middle());
-        Sentence.due(30, () -> Sentence.told(Sentence.many(5, "person 30 0;") + Sentence.many(3, "person 0 0;")).middle());
+        SlotMat even = Sentence.told(Sentence.many(4, "person 30 0;") + Sentence.many(4, "person 0 0;"));
+        Sentence.due(0, () -> even.middle());
+        SlotMat odd = Sentence.told(Sentence.many(5, "person 30 0;") + Sentence.many(3, "person 0 0;"));
+        Sentence.due(30, () -> odd.middle());
         Sentence.due(29, () -> Sentence.told("person 30 0;person 29 0;person 0 0;").middle());
         // Without people all places are alike.
         Sentence.due(0, () -> Sentence.told("box 9 9;").middle());

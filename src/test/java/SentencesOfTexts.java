@@ -31,13 +31,15 @@ public final class SentencesOfTexts {
     private static void aNewObject() {
         Sentence.of(1, "`SlotMat()`: No BOXES, nobody.");
         SlotMat x = new SlotMat();
-        Sentence.due(0, () -> x.count(0));
-        Sentence.due(0, () -> x.count(1));
+        // WET is 2, and the round has no box; of all else there is nothing.
+        int[] counts = {0, 0, 0, 2, 0, Sentence.NONE, 0, 0, 0, 0, 0, 0, 0, 0, 0, 0};
+        for (int i = 0; i < counts.length; i++) {
+            int what = i;
+            Sentence.due(counts[i], () -> x.count(what));
+        }
         Sentence.due(Sentence.NO_SUCH, () -> x.box(0, 0));
         Sentence.due(Sentence.NO_SUCH, () -> x.person(0, 0));
         Sentence.due(Sentence.NO_SUCH, () -> x.held(0, 0));
-        Sentence.due(Sentence.NONE, () -> x.count(5));
-        Sentence.due(0, () -> x.count(12));
         Sentence.due(0, () -> x.toCover(0));
         Sentence.due(0, () -> x.oneMore(0));
         Sentence.due(0, () -> x.oneMore(1));
@@ -157,6 +159,15 @@ public final class SentencesOfTexts {
         Sentence.due(2, () -> x.count(3));
         Sentence.due(5, () -> x.most(1, 2));
         Sentence.due(4, () -> x.later(1, 1, 1));
+        // Nor is anything left of boxes that are not told any more.
+        for (int i = 0; i < 3; i++) {
+            Sentence.tell(x, Sentence.many(6, "box 0 99;") + Sentence.many(8, "person 0 9 at 0;")
+                .replaceFirst("person 0 9 at 0", "person 0 9"));
+        }
+        Sentence.tell(x, "box 0 7;person 0 2;");
+        Sentence.due(7, () -> x.reds(0));
+        Sentence.due(2, () -> x.most(1, 2));
+        Sentence.due(Sentence.NO_SUCH, () -> x.box(1, 0));
 
         Sentence.of(3, "or the FAULT (all stays).");
         SlotMat stays = Sentence.told(Sentence.STREET + "round 1 0;thinks pensive+1;sounds much;");
@@ -478,6 +489,7 @@ public final class SentencesOfTexts {
         gives(2, "16/4/2");
         gives(8, "16/4*2");
         gives(6, "7/2*2");
+        gives(7, "3*5/2");
         gives(7, "1+2*3");
         gives(5, "1*2+3");
         gives(1, "9-2*4");
@@ -543,6 +555,17 @@ public final class SentencesOfTexts {
         gives(1, "0 or 7");
         gives(1, "0 or (0-1)");
         gives(1, "7 or 7");
+        // What does not hold is 0, and not less: it can be reckoned with.
+        gives(3, "(0 or 0)+3");
+        gives(3, "(0 and 7)+3");
+        gives(3, "(not 7)+3");
+        gives(3, "(3<3)+3");
+        gives(3, "(2=3)+3");
+        gives(4, "(7 or 7)+3");
+        gives(4, "(7 and 7)+3");
+        gives(4, "(not 0)+3");
+        gives(4, "(2<3)+3");
+        gives(4, "(3=3)+3");
         // One that stands alone is itself.
         gives(7, "(7)");
 
@@ -737,12 +760,10 @@ public final class SentencesOfTexts {
         Sentence.isCity("thinks " + Sentence.many(60, "(1)+") + "(((((1)))));");
         gives(8, "(((((3)))))+5");
         // As much as can wait at once waits in each of the six.
-        String waits = "1";
-        for (int i = 0; i < 5; i++) {
-            waits = "0 or 1 and not not not not not not 1=0+1*(" + waits + ")";
-        }
-        gives(1, waits);
-        gives(0, waits.replace("(1)", "(2)"));
+        String begins = "0 or 1 and not not not not not not 1=0+1*";
+        String waits = begins + Sentence.many(4, "(" + begins) + "(" + begins;
+        gives(1, waits + "1)))))");
+        gives(0, waits + "2)))))");
 
         Sentence.of(3, "the seventh 'not' side by side;");
         Sentence.isCity("thinks " + Sentence.many(6, "not ") + "1;");
@@ -815,11 +836,18 @@ public final class SentencesOfTexts {
         Sentence.fault(5, 9, "sounds 0;sounds 0;");
         Sentence.fault(5, 34, "thinks 0;wet 0;sounds 0;box 0 0; \nwet 0;");
         Sentence.isCity("box 0 0;sounds 0;thinks 0;wet 0;round 0;");
-        // None of the earlier text's, nor of one that had a fault.
+        // None of the earlier text's, nor of one that had a fault: not even what waits in it to be closed.
         SlotMat x = Sentence.told("box 0 0;round 0;wet 1;thinks 1;sounds 1;");
         Sentence.due(0, () -> Sentence.tell(x, "box 0 0;round 0;wet 1;thinks 1;sounds 1;"));
         Sentence.due(1, () -> Sentence.tell(x, "box 0 0;round 0;wet 1;thinks 1;sounds 1;?"));
         Sentence.due(0, () -> Sentence.tell(x, "box 0 0;round 0;wet 1;thinks 1;sounds 1;"));
+        for (String begun : new String[] {"(((((", "(((((1+", "not not not not not not ", "1<2 or (3=", "(1"}) {
+            Sentence.due(1, () -> Sentence.tell(x, "box 0 0;thinks " + begun + ";"));
+            Sentence.due(0, () -> Sentence.tell(x, "box 0 0;person 0 0;thinks (((((not not not not not not 4)))))+3;"));
+            Sentence.due(4, () -> x.most(1, 2));
+            Sentence.due(1, () -> Sentence.tell(x, "thinks " + begun));
+            Sentence.due(1, () -> Sentence.tell(x, "box 0 0;sounds 1);"));
+        }
 
         Sentence.of(3, "(AT may be one who is told behind, or never: then one thinks at nobody.)");
         SlotMat at = Sentence.told("person 0 0 at 2;person 0 0 at 3;person 0 0 at 0;");
